@@ -128,18 +128,12 @@ public final class PiecesThatFit {
         }
         int entry = f;
         for (int i = 0; i < n; i++) {
-            now.line.signs[i] = Math.floorMod(asKind(kind, entry), SIGNS);
+            // bytes and shorts keep the lowest bits, and these alone say what is left modulo 8
+            now.line.signs[i] = Math.floorMod(entry, SIGNS);
             entry += step;
         }
         now.line.size = n;
         return n;
-    }
-
-    private static int asKind(int kind, int entry) {
-        if (kind == 0) {
-            return (byte) entry;
-        }
-        return kind == 1 ? (short) entry : entry;
     }
 
     private static int cannotStand(int p) {
@@ -1314,18 +1308,26 @@ public final class PiecesThatFit {
             parted = q;
         }
 
+        /**
+         * From its end on, an ALTERNATIVE is read twice: exactly up to the column, for what ends there, and with what
+         * is left open behind the column, for what begins or goes through there.
+         */
         private boolean addParts(int k, int q) {
-            int exact = 1 << q;
-            int open = 1 << q;
+            int here = 1 << q;
+            int exact = here;
+            int open = here;
             int end = q;
             int in = q;
             for (int i = sizes[k] - 1; i >= 0; i--) {
                 int symbol = symbols[k * MOST_SYMBOLS + i];
                 end = Math.min(end, leastEnd(symbol, exact));
                 in = Math.min(in, leastEnd(symbol, open));
-                in = Math.min(in, leastWithin(symbol, q));
                 exact = stepBack(symbol, exact);
-                open = stepBack(symbol, open) | begunBy(symbol, q);
+                open = stepBack(symbol, open) | here;
+                if (symbol >= TOKENS) {
+                    in = Math.min(in, within[(symbol - TOKENS) * COLUMNS + q]);
+                    open |= begun[(symbol - TOKENS) * COLUMNS + q];
+                }
             }
             int cell = owners[k] * COLUMNS + q;
             boolean changed = (open & ~begun[cell]) != 0 || end < ending[cell] || in < within[cell];
@@ -1348,15 +1350,6 @@ public final class PiecesThatFit {
                 }
             }
             return least;
-        }
-
-        private int leastWithin(int symbol, int q) {
-            return symbol < TOKENS ? lowest(begunBy(symbol, q)) : within[(symbol - TOKENS) * COLUMNS + q];
-        }
-
-        private int begunBy(int symbol, int q) {
-            int here = 1 << q;
-            return symbol < TOKENS ? here | here >>> 1 & places[symbol] : begun[(symbol - TOKENS) * COLUMNS + q];
         }
 
         /** The lowest bit's number (32 without one: behind all columns). */
@@ -1496,8 +1489,10 @@ public final class PiecesThatFit {
         private void stepCapital(int x, int q) {
             for (int p = 0; p <= q; p++) {
                 int least = FAR;
+                int cost = cell(x, p) + p;
                 for (int r = p; r <= q; r++) {
-                    least = Math.min(least, best[r] + costs[cell(x, r) + p]);
+                    least = Math.min(least, best[r] + costs[cost]);
+                    cost += SIDE;
                 }
                 best[p] = least;
             }
@@ -1578,10 +1573,12 @@ public final class PiecesThatFit {
         }
 
         void findMates(Desk desk) {
+            for (int p = 0; p < MOST_PLACES; p++) {
+                mates[p] = 0;
+            }
             int waits = 0;
             for (int p = 1; p <= desk.line.size; p++) {
                 int kind = kindOf(desk, desk.line.signs[p - 1]);
-                mates[p] = 0;
                 if (kind == NONE) {
                     continue;
                 }
@@ -1590,19 +1587,22 @@ public final class PiecesThatFit {
                     waits++;
                     continue;
                 }
-                int w = waits - 1;
-                while (w >= 0 && kindOf(desk, desk.line.signs[waiting[w] - 1]) != kind - 1) {
-                    w--;
-                }
-                if (w >= 0) {
+                int w = latestOfKind(desk, kind - 1, waits);
+                if (w != NONE) {
                     mates[p] = waiting[w];
                     mates[waiting[w]] = p;
                     waits = w;
                 }
             }
-            for (int p = desk.line.size + 1; p < MOST_PLACES; p++) {
-                mates[p] = 0;
+        }
+
+        private int latestOfKind(Desk desk, int kind, int waits) {
+            for (int w = waits - 1; w >= 0; w--) {
+                if (kindOf(desk, desk.line.signs[waiting[w] - 1]) == kind) {
+                    return w;
+                }
             }
+            return NONE;
         }
 
         /** 2 times a pair's number, and 1 if the sign is the closing one; NONE: no bracket. */

@@ -50,6 +50,13 @@ public final class GrammarTest {
         }
         Check.equal("but signs are those of what is yielded", x.capital(0, 7), 1);
         Check.equal("signs that sentences have", x.count(8), 1);
+        Check.grammar(x, "B=AaA;A=|b|c");
+        Check.equal("A may yield no sign: a, b, c begin", x.capital(1, 5), 7);
+        Check.equal("and end", x.capital(1, 6), 7);
+        Check.grammar(x, "D=A|ab;A=B|ab;B=C;C=b");
+        Check.equal("b begins it, found late", x.capital(3, 5), 3);
+        Check.grammar(x, "D=A|ba;A=B|ba;B=C;C=b");
+        Check.equal("b ends it, found late", x.capital(3, 6), 3);
         Check.grammar(x, "F=E;E=;A=F");
         Check.equal("START itself", x.capital(5, 2), 1);
         Check.equal("E of START", x.capital(4, 2), 1);

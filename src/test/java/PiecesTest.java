@@ -3,6 +3,7 @@ public final class PiecesTest {
     public static void main(String[] args) {
         fits();
         fitsOfLongSentences();
+        fitsOfGrammarsAlike();
         onwardsAndBack();
         sentence();
         next();
@@ -49,6 +50,30 @@ public final class PiecesTest {
         Check.equal("aab without the b ahead", x.fits(2, 9), 1);
         Check.equal("unreached capitals do not help", Check.object("A=a;B=b", "b").fits(1, 2), 0);
         Check.equal("what can't end does not help", Check.object("A=a|bB;B=bB", "b").fits(1, 2), 0);
+    }
+
+    /** Of the same shape, with other signs: what was found of the one must not be told of the other. */
+    private static void fitsOfGrammarsAlike() {
+        PiecesThatFit x = Check.object("A=ab|a", "ab");
+        Check.equal("ab", x.fits(0, 4), 1);
+        Check.equal("behind a", x.next(1, 2), 258);
+        Check.equal("ahead of b", x.ahead(2, 3), 1);
+        Check.grammar(x, "A=bc|b");
+        Check.equal("ab no more", x.fits(0, 4), 0);
+        Check.equal("a no more", x.next(1, 2), -2);
+        Check.equal("ahead of b", x.ahead(2, 3), 256);
+        Check.equal("signs", x.count(8), 6);
+        Check.grammar(x, "A=abc|");
+        Check.equal("ahead of b", x.ahead(2, 3), 1);
+        Check.grammar(x, "A=cba|");
+        Check.equal("ahead of b", x.ahead(2, 3), 4);
+        x.undo();
+        Check.equal("ahead of b", x.ahead(2, 3), 1);
+        Check.grammar(x, "A=a;B=b");
+        Check.equal("A", x.sentence(), 0);
+        Check.grammar(x, "B=a;A=b");
+        Check.equal("B is START now", x.capital(1, 2), 1);
+        Check.equal("A is not", x.capital(0, 2), 0);
     }
 
     private static void onwardsAndBack() {
@@ -134,6 +159,8 @@ public final class PiecesTest {
         Check.equal("A: a b is not whole", x.yields(0, 0, 1, 3), 0);
         Check.equal("A: a b begins", x.yields(0, 1, 1, 3), 1);
         Check.equal("A: c d begins", x.yields(0, 1, 4, 6), 1);
+        Check.equal("A: b does not begin", x.yields(0, 1, 2, 3), 0);
+        Check.equal("A: b b does not begin", x.yields(0, 1, 2, 4), 0);
         Check.equal("A: c d does not end", x.yields(0, 2, 4, 6), 0);
         Check.equal("C: c d whole", x.yields(2, 0, 4, 6), 1);
         Check.equal("C: d ends", x.yields(2, 2, 5, 6), 1);

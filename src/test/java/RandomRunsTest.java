@@ -74,7 +74,12 @@ public final class RandomRunsTest {
     }
 
     private int place() {
-        return below(length + 5) - 1;
+        return once(60) ? extreme() : below(length + 5) - 1;
+    }
+
+    private int extreme() {
+        int[] extremes = {Integer.MIN_VALUE, Integer.MAX_VALUE, Integer.MIN_VALUE + 1, Integer.MAX_VALUE - 1, 1 << 16};
+        return once(3) ? random.nextInt() : extremes[below(extremes.length)];
     }
 
     private boolean type(String text) {
@@ -156,9 +161,9 @@ public final class RandomRunsTest {
     private boolean step() {
         length = x.count(0);
         int i = place();
-        int j = once(6) ? place() : Math.min(length + 2, i + below(6));
+        int j = once(6) || i > 20 ? place() : Math.min(length + 2, i + below(once(2) ? 5 : 17));
         int p = place();
-        int s = once(12) ? below(12) - 2 : below(8);
+        int s = once(12) ? below(12) - 2 : once(40) ? extreme() : below(8);
         boolean good = asked(below(46), i, j, p, s);
         good &= same("count(6)", () -> x.count(6), () -> model.count(6));
         int numbers = x.count(6);
@@ -181,15 +186,15 @@ public final class RandomRunsTest {
             case 7: case 8:
                 return type(fit(spoiled(someDay()))) && same("day()", x::day, model::day);
             case 9: {
-                int k = below(14) - 1;
-                int m = below(6) - 1;
+                int k = once(20) ? extreme() : below(14) - 1;
+                int m = once(20) ? extreme() : below(6) - 1;
                 return same("symbol(" + k + ", " + m + ")", () -> x.symbol(k, m), () -> model.symbol(k, m));
             }
             case 10:
                 return same("at(" + p + ")", () -> x.at(p), () -> model.at(p));
             case 11: {
                 int sort = below(6) - 1;
-                int n = below(18) - 2;
+                int n = once(20) ? extreme() : below(18) - 2;
                 int f = once(3) ? random.nextInt() : below(20) - 10;
                 int step = once(3) ? random.nextInt() : below(20) - 10;
                 return same("sheet(" + sort + ", " + n + ", " + f + ", " + step + ")",
@@ -208,8 +213,8 @@ public final class RandomRunsTest {
             case 19: case 20:
                 return same("ahead(" + i + ", " + j + ")", () -> x.ahead(i, j), () -> model.ahead(i, j));
             case 21: case 22: case 23: {
-                int c = once(5) ? below(9) - 1 : below(3);
-                int sort = once(8) ? below(7) - 1 : below(4);
+                int c = once(5) ? below(9) - 1 : once(60) ? extreme() : below(3);
+                int sort = once(8) ? below(7) - 1 : once(60) ? extreme() : below(4);
                 return same("yields(" + c + ", " + sort + ", " + i + ", " + j + ")",
                         () -> x.yields(c, sort, i, j), () -> model.yields(c, sort, i, j));
             }
@@ -253,18 +258,18 @@ public final class RandomRunsTest {
             case 35:
                 return same("wide(" + p + ")", () -> x.wide(p), () -> model.wide(p));
             case 36: {
-                int c = once(5) ? below(9) - 1 : below(4);
-                int what = below(10) - 1;
+                int c = once(5) ? below(9) - 1 : once(40) ? extreme() : below(4);
+                int what = once(40) ? extreme() : below(10) - 1;
                 return same("capital(" + c + ", " + what + ")",
                         () -> x.capital(c, what), () -> model.capital(c, what));
             }
             case 37: {
-                int n = below(8) - 1;
+                int n = once(20) ? extreme() : below(8) - 1;
                 return same("sentences(" + n + ")", () -> x.sentences(n), () -> model.sentences(n));
             }
             case 38: {
-                int k = once(8) ? below(5) - 1 : below(2);
-                int n = once(8) ? below(8) - 1 : below(6);
+                int k = once(8) ? below(5) - 1 : once(40) ? extreme() : below(2);
+                int n = once(8) ? below(8) - 1 : once(40) ? extreme() : below(6);
                 return same("apart(" + k + ", " + n + ")", () -> x.apart(k, n), () -> model.apart(k, n));
             }
             case 39:
@@ -277,15 +282,15 @@ public final class RandomRunsTest {
                 return same("undo()", x::undo, model::undo);
             case 43: {
                 int seed = random.nextInt();
-                int n = below(24) - 1;
+                int n = once(20) ? extreme() : below(24) - 1;
                 return same("years(" + seed + ", " + n + ")", () -> x.years(seed, n), () -> model.years(seed, n));
             }
             case 44: {
-                int k = below(4) - 1;
+                int k = once(20) ? extreme() : below(4) - 1;
                 return same("keep(" + k + ")", () -> x.keep(k) ? 1 : 0, () -> model.keep(k));
             }
             default: {
-                int k = below(4) - 1;
+                int k = once(20) ? extreme() : below(4) - 1;
                 return same("again(" + k + ")", () -> x.again(k) ? 1 : 0, () -> model.again(k));
             }
         }
