@@ -237,6 +237,12 @@ public final class EdgesOfChangesTest {
         Check.equal("the last sign of 80", Check.day(x, "d01".repeat(26) + "dx"), -80);
     }
 
+    static void promise34PiecesAreNotLed() {
+        PiecesThatFit x = Check.object("A=cAd|e", "caad", "cd");
+        Check.equal("led", x.led(), 1);
+        Check.tells("three", x, Check.day(x, "i02a"), 1, "0 3");
+    }
+
     static void promise34NothingIsDoneThen() {
         PiecesThatFit x = Check.object("A=", "abc");
         x.longest();
@@ -316,6 +322,17 @@ public final class EdgesOfChangesTest {
             Check.equal("the line", Check.lineOf(x), lines[k]);
             Check.equal("the brackets", x.count(4), k < 4 ? 1 : 0);
             Check.equal("START", x.count(3), k < 6 ? 1 : 0);
+        }
+    }
+
+    static void promise35BracketsAsAheadOfIt() {
+        PiecesThatFit x = Check.object("A=", "abcdefgh", "abcdef");
+        Check.brackets(x, "gh");
+        Check.equal("g, h", x.mate(7), 8);
+        x.undo();
+        int[] due = {2, 1, 4, 3, 6, 5, -2, -2};
+        for (int p = 1; p <= 8; p++) {
+            Check.equal("mate(" + p + ")", x.mate(p), due[p - 1]);
         }
     }
 
@@ -463,6 +480,12 @@ public final class EdgesOfChangesTest {
             Check.type(x, "hgf");
             return x;
         }, Long.parseLong(yearsBy(9, 20, "aaaaaaa").split(" ")[0]), x -> x.years(9, 20));
+    }
+
+    static void promise36PiecesAreNotLed() {
+        PiecesThatFit x = Check.object("A=cAd|e", "caaaaaaaaaaaad", "cd");
+        Check.equal("led", x.led(), 1);
+        Check.tells("14 signs: nothing comes", x, x.years(3, 1), 12, "12 14 0");
     }
 
     static void promise36RefusedChangesNothing() {

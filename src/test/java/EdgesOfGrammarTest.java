@@ -52,6 +52,9 @@ public final class EdgesOfGrammarTest {
         PiecesThatFit x = Check.object("F=;A=F", "");
         Check.equal("START comes of START", x.capital(5, 2), 1);
         Check.equal("what START comes of does not", x.capital(0, 2), 0);
+        Check.grammar(x, "F=;A=B|F;B=A");
+        Check.equal("what comes of others does not", x.capital(1, 2), 0);
+        Check.equal("nor they", x.capital(0, 2), 0);
         Check.grammar(x, "A=B|;B=C;C=D;D=E;E=F;F=B");
         for (int c = 0; c < 6; c++) {
             Check.equal("the last in a chain, too", x.capital(c, 2), 1);
@@ -90,10 +93,10 @@ public final class EdgesOfGrammarTest {
         for (int what = 5; what <= 7; what++) {
             Check.equal("all signs", x.capital(0, what), 255);
         }
-        Check.grammar(x, "A=ach");
-        Check.equal("begins", x.capital(0, 5), 1);
+        Check.grammar(x, "A=bdh");
+        Check.equal("begins", x.capital(0, 5), 2);
         Check.equal("ends", x.capital(0, 6), 128);
-        Check.equal("in it", x.capital(0, 7), 133);
+        Check.equal("in it", x.capital(0, 7), 138);
     }
 
     static void promise28ChangesNothing() {
@@ -164,6 +167,22 @@ public final class EdgesOfGrammarTest {
         Check.tells("gggh, hggg", x, x.sentences(4), 2, "6 6 6 7");
         Check.grammar(x, "A=bB|aC;B=aaaa;C=hhhh");
         Check.tells("ahhhh is ahead of baaaa", x, x.sentences(5), 2, "0 7 7 7 7");
+    }
+
+    static void promise29EmptyOnesBesideSigns() {
+        PiecesThatFit x = Check.object("A=BBBa;B=", "");
+        Check.tells("ahead of a", x, x.sentences(1), 1, "0");
+        Check.grammar(x, "A=aBBB;B=");
+        Check.tells("behind a", x, x.sentences(1), 1, "0");
+        Check.grammar(x, "A=BBBB;B=|C;C=");
+        Check.tells("alone", x, x.sentences(0), 1, "");
+    }
+
+    static void promise29OneSignAlone() {
+        PiecesThatFit x = Check.object("A=gA|", "");
+        for (int n = 0; n <= 5; n++) {
+            Check.tells("g's", x, x.sentences(n), 1, "6 6 6 6 6".substring(0, Math.max(0, 2 * n - 1)));
+        }
     }
 
     static void promise29DifferentOnes() {
@@ -253,6 +272,19 @@ public final class EdgesOfGrammarTest {
         x.keep(1);
         Check.grammar(x, "A=a|");
         Check.tells("the GRAMMAR has it", x, x.apart(1, 5), 0, "1");
+    }
+
+    static void promise30AllPartsOfGrammars() {
+        PiecesThatFit x = Check.object("A=a;B=b", "");
+        x.keep(0);
+        Check.grammar(x, "B=a;A=b");
+        Check.equal("other names, the same sentences", x.apart(0, 5), -2);
+        Check.grammar(x, "B=b;A=a");
+        Check.tells("the same rules, another START", x, x.apart(0, 5), 1, "0 0");
+        Check.grammar(x, "A=b;B=a");
+        Check.tells("the same shape, other signs", x, x.apart(0, 5), 1, "0 0");
+        Check.grammar(x, "A=Ba;B=");
+        Check.equal("an empty one ahead", x.apart(0, 5), -2);
     }
 
     static void promise30ShortestFirst() {

@@ -85,6 +85,22 @@ public final class EdgesOfKeptTest {
         }
     }
 
+    static void promise38BracketsAsTheyWereKept() {
+        PiecesThatFit x = Check.object("A=", "abcdefgh", "abcdef");
+        x.keep(0);
+        Check.brackets(x, "hgfedc");
+        x.keep(1);
+        x.again(0);
+        int[] due = {2, 1, 4, 3, 6, 5, -2, -2};
+        for (int p = 1; p <= 8; p++) {
+            Check.equal("mate(" + p + ")", x.mate(p), due[p - 1]);
+        }
+        x.again(1);
+        for (int p = 1; p <= 8; p++) {
+            Check.equal("none opens ahead of its closing one", x.mate(p), -2);
+        }
+    }
+
     static void promise38TextRowAndKeptStay() {
         PiecesThatFit x = Untouched.rich();
         String row = Check.rowOf(x);

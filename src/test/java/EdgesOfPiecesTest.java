@@ -210,6 +210,33 @@ public final class EdgesOfPiecesTest {
         Check.tells("no piece", x, x.next(0, 17), -1, "0");
     }
 
+    static void promise14FullLine() {
+        PiecesThatFit x = Check.object("A=aA|", FULL_LINE);
+        for (int i = 0; i <= 16; i++) {
+            Check.tells("behind nothing", x, x.next(i, i), 257, "2");
+            Check.tells("behind the rest", x, x.next(i, 16), i < 16 ? 0 : 257, i < 16 ? "0" : "2");
+            Check.tells("behind what is ahead", x, x.next(0, i), i < 16 ? 257 : 0, i < 16 ? "2" : "0");
+        }
+    }
+
+    static void promise14QuestionsBehindIt() {
+        PiecesThatFit x = Check.object("A=aAb|", "aabb");
+        for (int i = 0; i <= 6; i++) {
+            x.next(i, i);
+            Check.equal("onwards", x.onwards(6), 6);
+            x.next(i, i);
+            Check.equal("all fits", x.longest(), 6);
+            x.next(i, i);
+            Check.tells("nothing is wrong", x, x.report(), 0, "");
+            x.next(i, i);
+            Check.tells("nothing is wrong", x, x.backwards(), 0, "");
+            x.next(i, i);
+            Check.tells("nothing is wrong", x, x.least(), 0, "");
+            x.next(i, i);
+            Check.tells("nothing is needed", x, x.needed(), 0, "0");
+        }
+    }
+
     static void promise14EmptyLine() {
         PiecesThatFit x = Check.object("A=h", "");
         Check.tells("behind ^", x, x.next(0, 1), 128, "1");
@@ -267,6 +294,15 @@ public final class EdgesOfPiecesTest {
         Check.tells("ahead of fourteen", x, x.ahead(1, 16), 511, "9");
         Check.tells("ahead of ^", x, x.ahead(0, 16), 0, "0");
         Check.tells("no piece", x, x.ahead(0, 17), -1, "0");
+    }
+
+    static void promise15FullLine() {
+        PiecesThatFit x = Check.object("A=aA|", FULL_LINE);
+        for (int i = 0; i <= 16; i++) {
+            Check.tells("ahead of nothing", x, x.ahead(i, i), 257, "2");
+            Check.tells("ahead of what is ahead", x, x.ahead(0, i), i > 0 ? 0 : 257, i > 0 ? "0" : "2");
+            Check.tells("ahead of the rest", x, x.ahead(i, 16), i > 0 ? 257 : 0, i > 0 ? "2" : "0");
+        }
     }
 
     static void promise15EmptyLine() {

@@ -93,6 +93,8 @@ public final class EdgesOfReportsTest {
         Check.tells("at j - 1 it leads", x, x.led(), 1, "1 3");
         Check.line(x, "acaad");
         Check.tells("at j it does not", x, x.led(), 2, "1 2 3 4");
+        Check.line(x, "hhceaad");
+        Check.tells("behind j it does not", x, x.led(), 3, "1 2 2 3 5 6");
     }
 
     static void promise19ClosingAtJOrBehind() {
@@ -292,6 +294,12 @@ public final class EdgesOfReportsTest {
         Check.tells("fourteen become others", x, x.needed(), 4096, "14");
     }
 
+    static void promise22PiecesAreNotLed() {
+        PiecesThatFit x = Check.object("A=cAd|e", "caaad", "cd");
+        Check.equal("led", x.led(), 1);
+        Check.tells("two go, one becomes e", x, x.needed(), 3, "3");
+    }
+
     static void promise22ChangesNothing() {
         Untouched.butRow("of the rich one: acedbhb becomes acb", 4, PiecesThatFit::needed);
     }
@@ -337,6 +345,12 @@ public final class EdgesOfReportsTest {
         Check.tells("$", x, x.without(15), -1, "0");
     }
 
+    static void promise23PiecesAreNotLed() {
+        PiecesThatFit x = Check.object("A=cAd|e", "caaad", "cd");
+        Check.equal("led", x.led(), 1);
+        Check.tells("two are left", x, x.without(2), 2, "1");
+    }
+
     static void promise23ChangesNothing() {
         Untouched.by("no place", -1, x -> x.without(0));
         Untouched.by("no place", -1, x -> x.without(8));
@@ -368,6 +382,12 @@ public final class EdgesOfReportsTest {
         Check.tells("thirteen stay", x, x.blames(), 1, "13");
     }
 
+    static void promise24PiecesAreNotLed() {
+        PiecesThatFit x = Check.object("A=cAd|e", "caaad", "cd");
+        Check.equal("led", x.led(), 1);
+        Check.tells("two are left", x, x.blames(), 2, "2");
+    }
+
     static void promise24ChangesNothing() {
         Untouched.by("an empty line", () -> {
             PiecesThatFit x = Untouched.rich();
@@ -382,6 +402,16 @@ public final class EdgesOfReportsTest {
         Check.tells("^ab and ab$", x, x.longest(), 3, "0 3");
         Check.grammar(x, "A=c");
         Check.tells("^ and $", x, x.longest(), 1, "0 1");
+    }
+
+    static void promise25BehindBegin() {
+        PiecesThatFit x = Check.object("A=bab", "ab");
+        Check.tells("from place 1 on", x, x.longest(), 3, "1 4");
+        Check.line(x, "cccb");
+        Check.tells("the last sign and $", x, x.longest(), 2, "4 6");
+        Check.grammar(x, "A=habh|hcBh;B=de");
+        Check.line(x, "abcde");
+        Check.tells("ab, then cde", x, x.longest(), 3, "3 6");
     }
 
     static void promise25EmptyLine() {
@@ -429,6 +459,9 @@ public final class EdgesOfReportsTest {
         // ^ab, bc, cd, de$ fit, and nothing longer: c has bc and cd
         PiecesThatFit x = Check.object("A=abh|hbch|hcdh|hde", "abcde");
         Check.tells("the one that begins first", x, x.weakest(), 3, "2 4");
+        // ^abc, bcd, defg$ fit: d has bcd, but defg$ is longer
+        PiecesThatFit y = Check.object("A=abch|hBh|hdeC;B=bcd;C=fg", "abcdefg");
+        Check.tells("of unlike ones the longest", y, y.weakest(), 0, "0 4");
     }
 
     static void promise26EmptyLine() {

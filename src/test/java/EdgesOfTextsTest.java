@@ -278,6 +278,12 @@ public final class EdgesOfTextsTest {
         answers("A=a|aF", -201);
         answers("A=a;B=C", -201);
         answers("A=aaaB", -201);
+        answers("B=b|A", -201);
+        for (char c = 'A'; c <= 'F'; c++) {
+            String other = c == 'C' ? "D" : "C";
+            answers(other + "=a|" + c, -201);
+            answers(other + "=a|" + c + ";" + c + "=", 3);
+        }
         taken("A=a;B=B", 2);
     }
 
