@@ -7,7 +7,7 @@ import java.util.TreeSet;
 import java.util.regex.Matcher;
 import java.util.regex.Pattern;
 
-/** The notes list the tests of sentences that name an edge: each that is listed is there, each that is there is listed. */
+/** The notes list the tests of sentences that name an edge: what is listed is there, what is there is listed. */
 public final class EdgesListTest {
     private static final Class<?>[] TESTS = {EdgesOfTermsTest.class, EdgesOfTextsTest.class, EdgesOfPiecesTest.class,
         EdgesOfReportsTest.class, EdgesOfGrammarTest.class, EdgesOfChangesTest.class, EdgesOfKeptTest.class};

@@ -4,8 +4,9 @@ public final class EdgesOfPiecesTest {
     private static final int MAX = Check.MAX;
     private static final String FULL_LINE = "aaaaaaaaaaaaaa";
     /** Of a line of two signs, what is no piece. */
-    private static final int[][] NO_PIECES = {{-1, -1}, {-1, 0}, {-1, 4}, {1, 0}, {2, 1}, {4, 3}, {4, 0}, {0, 5}, {4, 5},
-        {5, 5}, {MIN, MIN}, {MIN, 0}, {MIN, 4}, {MAX, MAX}, {0, MAX}, {4, MAX}, {MIN, MAX}, {MAX, MIN}, {0, MIN}, {MAX, 0}};
+    private static final int[][] NO_PIECES = {{-1, -1}, {-1, 0}, {-1, 4}, {1, 0}, {2, 1}, {4, 3}, {4, 0}, {0, 5},
+        {4, 5}, {5, 5}, {MIN, MIN}, {MIN, 0}, {MIN, 4}, {MAX, MAX}, {0, MAX}, {4, MAX}, {MIN, MAX}, {MAX, MIN},
+        {0, MIN}, {MAX, 0}};
 
     public static void main(String[] args) {
         Check.runAll(EdgesOfPiecesTest.class);
